@@ -30,6 +30,7 @@ public final class ModelTest {
         private final Random random;
         private final FlipHeaps real = new FlipHeaps();
         private final Model model = new Model();
+        private int calls = 0;
 
         Run(int seed) {
             this.seed = seed;
@@ -37,12 +38,13 @@ public final class ModelTest {
         }
 
         void go() {
-            for (int call = 0; call < CALLS && wrong < 20; call++) {
+            // A step makes three calls at most, and nothing is promised beyond the last.
+            for (int step = 0; calls <= CALLS - 3 && step < 2 * CALLS && wrong < 20; step++) {
                 // A new order now and then, and enough lays behind it to make it worth turning.
-                if (call % 128 == 0) {
+                if (step % 128 == 0) {
                     one(0);
                 }
-                one(call % 128 < 24 ? random.nextInt(6) : random.nextInt(25));
+                one(step % 128 < 24 ? random.nextInt(6) : random.nextInt(25));
             }
         }
 
@@ -90,6 +92,7 @@ public final class ModelTest {
         }
 
         private void due(String call, long got, long want) {
+            calls++;
             if (got != want) {
                 wrong++;
                 System.out.println("seed " + seed + ": " + call + " answered " + got + ", due is " + want);
