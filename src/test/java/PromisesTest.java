@@ -318,7 +318,7 @@ public final class PromisesTest {
         due("orbits(1, 0) of 256", free.orbits(1, 0), 256);
         due("orbits(1, 1) of 256", free.orbits(1, 1), 1);
         due("orbits(1, 2) of 256", free.orbits(1, 2), 1);
-        // 2 * 2 * 3 * 3 * 5 * 7 * 11 * 13: nothing near the limit of 1000000000 could be found.
+        // 2 * 2 * 3 * 3 * 5 * 7 * 11 * 13; EdgesTest says why none is above 1000000000.
         FlipHeaps great = order(8, new int[] {12, 13, 14, 46, 56, 5, 7}, 5, 1, 6, 0, 2, 1, 4, 1, 6, 3);
         due("orbits(1, 1) of a great order", great.orbits(1, 1), 180180);
     }
