@@ -1,4 +1,7 @@
-/** For each promise of the document: ordinary inputs, its edges and wrong inputs, worked out by hand. */
+/**
+ * For each promise of the document: ordinary inputs, its edges and wrong inputs, worked out by hand;
+ * only the long periods and great orders were found by a search, and checked by a program of its own.
+ */
 public final class PromisesTest {
     private static final int BAD = -1;
     private static final int FULL = -3;
