@@ -40,6 +40,7 @@ public final class EdgesTest {
         shortestAndLongestOrbit();
         fewestAndMostOrbits();
         greatestOrder();
+        orbitsOfAStar();
         kindsOfMeasures();
         measuresOfTheEmptyHeap();
         measuresOfTheHeapOfAll();
@@ -606,9 +607,33 @@ public final class EdgesTest {
         due("common multiple of all orbits", least, 1021020);
         due("orbits(1, 1)", x.orbits(1, 1), 1021020);
         due("orbits(1, 2)", x.orbits(1, 2), longest);
-        // One thing below all others, and fifteen flips that part its orbits as far as may be.
-        FlipHeaps star = order(new int[] {1, 2, 3, 4, 5, 6, 7}, 0, 1, 0, 2, 0, 3, 0, 4, 0, 5, 0, 6, 0, 7, 0);
-        due("orbits(1, 1) of a star is told", star.orbits(1, 1) > 0 ? 1 : 0, 1);
+    }
+
+    /**
+     * One thing below all others: a heap is empty, or is thing 0 with some of 1 .. 7. A chain that flips 0
+     * between 1, 2, .. 7 takes most of them to 0 with those of 1 .. 7 that were left (57 orbits of two). But
+     * the empty heap and the heap of all change places, and those with just 1 .. k come to the ones without
+     * 1 .. k + 1, which come to 1 .. k + 1: thirteen heaps one after the other, for k from 0 to 6.
+     */
+    private static void orbitsOfAStar() {
+        sentence = "13: orbits of unlike lengths, of most heaps that hang together";
+        FlipHeaps x = order(new int[] {1, 2, 3, 4, 5, 6, 7}, 0, 1, 0, 2, 0, 3, 0, 4, 0, 5, 0, 6, 0, 7, 0);
+        due("many()", x.many(), 129);
+        due("orbits(1, 0)", x.orbits(1, 0), 1 + 1 + 57);
+        due("orbits(1, 1)", x.orbits(1, 1), 26);
+        due("orbits(1, 2)", x.orbits(1, 2), 13);
+        due("turn(0, 1, 1)", x.turn(0, 1, 1), 255);
+        due("turn(255, 1, 1)", x.turn(255, 1, 1), 0);
+        due("turn(1, 1, 1)", x.turn(1, 1, 1), 253);
+        due("turn(253, 1, 1)", x.turn(253, 1, 1), 3);
+        due("turn(127, 1, 1)", x.turn(127, 1, 1), 1);
+        due("orbit(0, 1)", x.orbit(0, 1), 2);
+        due("orbit(1, 1)", x.orbit(1, 1), 13);
+        due("orbit(5, 1)", x.orbit(5, 1), 2);
+        due("stays(1, 1)", x.stays(1, 1), 0);
+        due("stays(1, 2)", x.stays(1, 2), 116);
+        due("stays(1, 13)", x.stays(1, 13), 13);
+        due("stays(1, 26)", x.stays(1, 26), 129);
     }
 
     // ---- measures

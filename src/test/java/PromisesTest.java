@@ -39,6 +39,7 @@ public final class PromisesTest {
         count();
         trace();
         refusalsChangeNothing();
+        exampleOfTheReadme();
         System.out.println(wrong == 0 ? "PromisesTest: all answers are as due" : "PromisesTest: " + wrong + " answers are not as due");
         if (wrong != 0) {
             System.exit(1);
@@ -685,5 +686,28 @@ public final class PromisesTest {
             x.count(b);
         }
         due("what is seen behind refusals is the same", seen(x).equals(before) ? 1 : 0, 1);
+    }
+
+    /** The calls that README.md shows, in its order. */
+    private static void exampleOfTheReadme() {
+        promise = 0;
+        FlipHeaps x = new FlipHeaps();
+        due("lay(0, 2)", x.lay(0, 2), 1);
+        due("lay(1, 2)", x.lay(1, 2), 1);
+        due("many()", x.many(), 5);
+        due("flip(3, 2)", x.flip(3, 2), 7);
+        due("turn(0, 0, 1)", x.turn(0, 0, 1), 3);
+        due("orbits(0, 1)", x.orbits(0, 1), 6);
+        due("mean(0, 0, 0, 0)", x.mean(0, 0, 0, 0), 5);
+        due("mean(0, 0, 0, 1)", x.mean(0, 0, 0, 1), 3);
+        due("say(2)", x.say(2), 1);
+        due("turn(3, 1, 1)", x.turn(3, 1, 1), 7);
+        due("weight(2, -4)", x.weight(2, -4), 0);
+        due("measure(2, 7)", x.measure(2, 7), 0);
+        due("trace()", x.trace(), 111);
+        due("fillings(2)", x.fillings(2), 14);
+        due("round(2, 0, 0)", x.round(2, 0, 0), 8);
+        due("at(2)", x.at(2), -1);
+        due("lay(2, 1)", x.lay(2, 1), BAD);
     }
 }
